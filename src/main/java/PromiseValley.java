@@ -29,7 +29,7 @@ public final class PromiseValley {
     private static final int LOAD_MAX = 99;
 
     private static final int GROWN = 10;
-    private static final int MARRIAGEABLE = 16;
+    private static final int OF_AGE = 16;
     private static final int SIZE_MAX = 30;
     private static final int FIRST_BOUND = 20;
 
@@ -338,7 +338,7 @@ public final class PromiseValley {
         if (v == null || a == b || !v.hasFolk(a) || !v.hasFolk(b)) {
             return NONE;
         }
-        boolean ofAge = v.age[a] >= MARRIAGEABLE && v.age[b] >= MARRIAGEABLE;
+        boolean ofAge = v.age[a] >= OF_AGE && v.age[b] >= OF_AGE;
         return ofAge && kin.nearness(v, a, b) < Kin.EIGHTH ? 1 : 0;
     }
 
@@ -1288,7 +1288,7 @@ public final class PromiseValley {
         }
 
         private boolean bear(int parent, int born) {
-            if (!lives(parent) || age[parent] < MARRIAGEABLE || folk >= FOLK_MAX) {
+            if (!lives(parent) || age[parent] < OF_AGE || folk >= FOLK_MAX) {
                 return false;
             }
             age[folk] = 0;
@@ -1326,11 +1326,11 @@ public final class PromiseValley {
         }
 
         private boolean owes(int f, int p) {
-            if (!hasPromise(p) || fate[p] != OPEN) {
+            if (p < 0 || p >= PROMISES_MAX || fate[p] != OPEN) {
                 return false;
             }
             int child = promiser[p];
-            return hasFolk(child) && (grand[child] >> f & 1) != 0;
+            return child >= 0 && child < FOLK_MAX && (grand[child] >> f & 1) != 0;
         }
 
         private int firstDue(int f) {
@@ -2238,27 +2238,22 @@ public final class PromiseValley {
                     all |= v.grand[f];
                 }
             }
-            manyWatchers = FOLK_MAX + 1;
-            for (int set = 0; set <= children && set < FOLK_SETS; set++) {
-                if ((set & ~children) == 0) {
-                    watched[set] = watchedBy(v, set);
-                    int many = Integer.bitCount(set);
-                    if (watched[set] == all && many < manyWatchers) {
-                        manyWatchers = many;
-                        watchers = set;
-                    }
+            watched[0] = 0;
+            for (int f = 0; f < FOLK_MAX; f++) {
+                // Sets with f as their greatest: those without it are known by then.
+                for (int rest = 0; rest < 1 << f; rest++) {
+                    watched[rest | 1 << f] = watched[rest] | v.grand[f];
                 }
             }
-        }
-
-        /** What a set watches, by the set without its least, which was seen ahead of it. */
-        private int watchedBy(Valley v, int set) {
-            int least = Integer.numberOfTrailingZeros(set);
-            int rest = set & (set - 1);
-            if (!v.hasFolk(least) || rest < 0 || rest >= FOLK_SETS) {
-                return 0;
+            manyWatchers = FOLK_MAX + 1;
+            for (int set = 0; set < FOLK_SETS; set++) {
+                int many = Integer.bitCount(set);
+                boolean watches = (set & ~children) == 0 && watched[set] == all;
+                if (watches && many < manyWatchers) {
+                    manyWatchers = many;
+                    watchers = set;
+                }
             }
-            return watched[rest] | v.grand[least];
         }
     }
 
