@@ -1352,7 +1352,7 @@ public final class PromiseValley {
             int more = Math.min(strength[f], size[w] - dug[w]);
             dug[w] += more;
             dugBy[f] += more;
-            if (!isDone(w)) {
+            if (dug[w] < size[w]) {
                 return;
             }
             for (int p = 0; p < promises && p < PROMISES_MAX; p++) {
