@@ -102,6 +102,9 @@ public final class PromiseValley {
     }
 
     public int text(int sort, int at) {
+        int length = now.length;
+        // the tape is taken, and is empty then, even if no text is read of it
+        now.length = 0;
         now.fault = 0;
         now.place = NONE;
         int many = now.howMany(sort);
@@ -112,8 +115,7 @@ public final class PromiseValley {
         if (!further && (at < 0 || at >= many)) {
             return NO_SUCH;
         }
-        reader.read(now.tape, now.length, sort);
-        now.length = 0;
+        reader.read(now.tape, length, sort);
         now.fault = reader.fault;
         now.place = reader.place;
         if (reader.fault != 0) {

@@ -7,6 +7,8 @@ public final class TextsTest {
         newObject();
         feedAndEnd();
         textNumbers();
+        tapeIsEmptyBehindRefusedText();
+        imageOfRefusedText();
         faultOfForm();
         faultOfNumbers();
         faultOfMany();
@@ -91,8 +93,8 @@ public final class TextsTest {
         Check.due("fault of no text", x.fault(0), 0);
         Check.due("place of no text", x.fault(1), -1);
         Check.due("sort -1", x.text(-1, -1), -2);
-        Check.due("the tape stays", x.end(8), 8);
-        Check.due("and is a text", x.text(0, -1), 0);
+        Check.due("no text was read", x.count(0), 0);
+        Check.due("a text", Check.tell(x, 0, -1, "bound 4;"), 0);
         Check.due("bound", x.valley(0, 2), 4);
         Check.due("a fault in its place", Check.tell(x, 0, 0, "bound 31;"), -1);
         Check.due("the old one stays", x.valley(0, 2), 4);
@@ -101,6 +103,59 @@ public final class TextsTest {
         Check.due("fault(-1)", x.fault(-1), -1);
         Check.due("in its place", Check.tell(x, 0, 0, "bound 6;"), 0);
         Check.due("the new one", x.valley(0, 2), 6);
+    }
+
+    private static void tapeIsEmptyBehindRefusedText() {
+        int[] wrongPlaces = {2, 3, -2, Integer.MIN_VALUE, Integer.MAX_VALUE};
+        for (int sort = 0; sort < 3; sort++) {
+            for (int many = 0; many <= 2; many++) {
+                for (int at = many; at < 2; at++) {
+                    takenUnread(sort, at, many);
+                }
+                for (int at : wrongPlaces) {
+                    takenUnread(sort, at, many);
+                }
+            }
+            takenUnread(sort, -1, 2);
+        }
+        for (int sort : new int[] {-1, 3, -2, Integer.MIN_VALUE, Integer.MAX_VALUE}) {
+            for (int at = -2; at <= 2; at++) {
+                takenUnread(sort, at, 0);
+            }
+        }
+    }
+
+    /** Behind that many texts of the sort text() is due to answer -2; the tape, whatever it held, is empty then. */
+    private static void takenUnread(int sort, int at, int many) {
+        PromiseValley x = new PromiseValley();
+        for (int k = 0; k < many; k++) {
+            Check.told(x, sort, "", k);
+        }
+        String call = "text(" + sort + ", " + at + ") with " + many;
+        for (String told : new String[] {"", "?", "bound 4;", Check.times(600, " ")}) {
+            Check.tape(x, told);
+            Check.due(call, x.text(sort, at), -2);
+            Check.due("fault(0) behind " + call, x.fault(0), 0);
+            Check.due("fault(1) behind " + call, x.fault(1), -1);
+            Check.due("end(1) behind " + call, x.end(1), -1);
+            Check.due("feed behind " + call, x.feed(0, 0, 0, 0, 0), 20);
+        }
+        Check.due("count behind " + call, x.count(sort), sort >= 0 && sort < 3 ? many : -2);
+    }
+
+    private static void imageOfRefusedText() {
+        PromiseValley x = new PromiseValley();
+        Check.tape(x, "bound 4;");
+        Check.due("image(0)", x.image(0), true);
+        Check.due("none such", x.text(0, 0), -2);
+        Check.due("image(1)", x.image(1), true);
+        Check.due("again(0)", x.again(0), true);
+        Check.due("the tape of image 0", x.end(8), 8);
+        Check.due("a text", x.text(0, -1), 0);
+        Check.due("bound", x.valley(0, 2), 4);
+        Check.due("again(1)", x.again(1), true);
+        Check.due("the tape of image 1", x.end(1), -1);
+        Check.due("count of image 1", x.count(0), 0);
     }
 
     private static void faultOfForm() {
