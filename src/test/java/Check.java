@@ -2,6 +2,9 @@ import java.nio.charset.StandardCharsets;
 
 /** What the tests of the project share: answers that are due, and texts laid on the tape. */
 final class Check {
+    /** Whatever is due stands under it. */
+    static String heading = "";
+
     private static final int SHOWN = 40;
     private static int wrong = 0;
     private static int asked = 0;
@@ -14,7 +17,7 @@ final class Check {
         if (got != want) {
             wrong++;
             if (wrong <= SHOWN) {
-                System.out.println(call + " answered " + got + ", due is " + want);
+                System.out.println(heading + call + " answered " + got + ", due is " + want);
             }
         }
     }

@@ -1,0 +1,17 @@
+/** Each sentence of the document that names an edge, with a test of its own. */
+public final class EdgesTest {
+    private EdgesTest() {
+    }
+
+    public static void main(String[] args) {
+        EdgesOfTape.run();
+        EdgesOfTexts.run();
+        EdgesOfLives.run();
+        EdgesOfAsked.run();
+        EdgesOfKin.run();
+        EdgesOfSights.run();
+        EdgesOfNumbers.run();
+        Words.finish();
+        Check.finish();
+    }
+}
