@@ -372,6 +372,11 @@ final class EdgesOfAsked {
         // by n at once: 3 a year and 2 a year are 15 in 3 years, though not 14 and 1
         plan("folk 50 3;folk 50 2;work 15 1;", 3, 1, 1, 2);
         plan("folk 50 3;folk 50 2;work 16 1;", 3, 0, 0, 0);
+        // 9 are enough for one of 6, 3 together not for the other, though 12 are for both
+        plan("folk 50 9;folk 50 1;folk 50 1;folk 50 1;work 6 5;work 6 5;", 1, 5, 1, 1);
+        plan("folk 50 9;folk 50 2;folk 50 2;folk 50 2;work 6 5;work 6 5;", 1, 10, 3, 4);
+        // those without STRENGTH dig nothing
+        plan("folk 50 2;folk 50 0;folk 50 0;work 1 5;work 1 5;", 1, 5, 1, 1);
         // of any AGE
         plan("folk 0 9;folk 99 9;work 18 1;", 1, 1, 1, 2);
     }

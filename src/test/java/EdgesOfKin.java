@@ -145,6 +145,16 @@ final class EdgesOfKin {
         Check.due("uncle of half blood: 1 by 16", of(kin(4, 1, 0, 2, 0, 3, 2)).wedding(0, 1, 3), 1);
         Check.due("uncle of whole blood: 1 by 8", of(kin(5, 2, 0, 2, 1, 3, 0, 3, 1, 4, 3)).wedding(0, 2, 4), 0);
         Check.due("of no kin", of(kin(2)).wedding(0, 0, 1), 1);
+        // just below 1 by 8, and just above
+        x = of(kin(10, 1, 0, 2, 1, 3, 2, 4, 0, 4, 3, 5, 1, 5, 3, 6, 0, 6, 4, 7, 0, 7, 5, 8, 5, 8, 7, 9, 8));
+        near(x, 6, 9, 125, 1024);
+        Check.due("125 by 1024", x.wedding(0, 6, 9), 1);
+        x = of(kin(10, 1, 0, 2, 0, 3, 1, 4, 2, 6, 2, 6, 3, 7, 3, 7, 6, 8, 7, 9, 4, 9, 6));
+        near(x, 8, 9, 63, 512);
+        Check.due("63 by 512", x.wedding(0, 9, 8), 1);
+        x = of(kin(9, 1, 0, 2, 0, 2, 1, 3, 0, 3, 2, 4, 0, 4, 3, 5, 1, 6, 4, 7, 5, 8, 2, 8, 7));
+        near(x, 6, 8, 65, 512);
+        Check.due("65 by 512", x.wedding(0, 6, 8), 0);
     }
 
     private static void weddingOfNoneSuch() {
@@ -380,6 +390,8 @@ final class EdgesOfKin {
         houses(EdgesOfLives.line(1, 9), 7, 1, 8, 4);
         houses(EdgesOfLives.line(1, 10), 7, 0, 8, 0);
         houses(EdgesOfAsked.house(1, 8), 7, 1, 8, 4);
+        // who alone, without how many being asked first
+        houses(EdgesOfAsked.house(1, 8), 8, 4);
         houses(Check.times(10, "folk 5 1;"), 7, 0, 8, 0);
         String two = "folk 70 1;folk 40 1;folk 5 1;folk 70 1;folk 40 1;folk 5 1;child 1 0;child 2 1;child 4 3;child 5 4;";
         houses(two, 7, 2, 8, 36);

@@ -46,6 +46,7 @@ final class EdgesOfLives {
         drawnByThirtyTwoBits();
         drawnWithoutFolkOrWorks();
         drawnIfItMay();
+        drawnEach();
         drawnAsState();
         firstKept();
         handThatDugMost();
@@ -606,6 +607,31 @@ final class EdgesOfLives {
         Check.due("folk at most", folk <= 10 && folk > 6, true);
     }
 
+    /** What one draw does, by the first seed with which it is that one. */
+    private static void drawnEach() {
+        Words.term(4, "a number below 8: 0, 1: promise, a FOLK, below FOLK there are, a WORK, below WORKS, "
+            + "1 more than a number below 9; 2: cover, 3: die, a FOLK; 4: born, a FOLK, a number below 10; 5 to 7: year");
+        PromiseValley x = new PromiseValley();
+        Check.told(x, 0, "folk 9 1;work 9 1;", 0);
+        Check.told(x, 0, "folk 16 1;", 1);
+        for (int kind = 0; kind < 8; kind++) {
+            int seed = 0;
+            while (((seed * 1103515245 + 12345) >>> 16) % 8 != kind) {
+                seed++;
+            }
+            Check.due("promises by " + kind, x.drawn(0, seed, 1, 4), kind < 2 ? 1 : 0);
+            Check.due("covered by " + kind, x.drawn(0, seed, 1, 3), kind == 2 ? 1 : 0);
+            Check.due("living by " + kind, x.drawn(0, seed, 1, 2), kind == 3 ? 0 : 1);
+            Check.due("folk by " + kind, x.drawn(1, seed, 1, 1), kind == 4 ? 2 : 1);
+            Check.due("year by " + kind, x.drawn(0, seed, 1, 0), kind >= 5 ? 1 : 0);
+        }
+        // a seed so rare that the grandchild of one that was born promises, and that one digs by its STRENGTH
+        x = new PromiseValley();
+        Check.told(x, 0, "folk 40 0;folk 40 0;folk 40 0;folk 40 0;work 30 1;", 0);
+        Check.due("years", x.drawn(0, -1020153835, 60, 0), 33);
+        Check.due("dug", x.drawn(0, -1020153835, 60, 30), 2);
+    }
+
     private static void drawnAsState() {
         Words.promise(20, "DRAWN, n times, what as state().");
         PromiseValley x = new PromiseValley();
@@ -667,6 +693,12 @@ final class EdgesOfLives {
         after(lived(couple(5, 4) + "work 30 1;", "promise 3 0 9;year;die 0;year;", 4), 1, 1);
         after(lived(couple(9, 4) + "work 30 1;", "promise 3 0 9;year;die 0;year;", 4), 1, 0);
         after(lived(couple(8, 4) + "work 30 1;", "promise 3 0 9;year;die 0;year;", 4), 1, 0);
+        // in this life alone
+        PromiseValley x = lived(couple(9, 4) + "work 30 1;", life, 2);
+        after(x, 1, 0);
+        Check.told(x, 1, "die 0;promise 3 0 9;year;", 1);
+        Check.due("after(0, 1, 1)", x.after(0, 1, 1), 1);
+        after(x, 1, 0);
         // nobody digs anything
         after(lived(couple(0, 0) + "work 30 1;", life, 2), 1, -1);
         after(lived(couple(0, 1) + "work 30 1;", life, 2), 1, 1);

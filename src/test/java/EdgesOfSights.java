@@ -173,9 +173,17 @@ final class EdgesOfSights {
         fits(TWO + "work 2 1;work 30 1;", "", -1, 0, 3, 20, 21, 50, 51);
         // of WORK 0 nothing is dug by either that FITS, of WORK 1 either 9 or 2
         fits(TWO + "work 2 1;work 30 1;", "dug 0 0;", -1, 1, 1, 21, 51);
-        // three children of one WORK, 2 to 4 alike: 3 of one; the last of six WORKS
+        // WORK 0 is 4 alike, WORKS 1 and 2 are 2 of 0, 9, 2 each
+        fits(TWO + "work 30 1;work 30 1;work 30 1;", "dug 0 0;", -1, 1, 2, 21, 22, 51, 52);
+        // DUG by 1 is not as far as by 0
+        fits(EdgesOfAsked.house(2, 1) + "work 1 1;work 18 1;", "", 2, 0, 1, 20, 21);
+        // DUG by 30 is as far as may be: 2 of WORK 1 as of WORK 0
+        String four = "folk 70 9;folk 70 9;folk 70 9;folk 70 9;folk 40 0;folk 40 0;folk 5 0;folk 5 0;"
+            + "child 4 0;child 4 1;child 5 2;child 5 3;child 6 4;child 6 5;child 7 4;child 7 5;";
+        fits(four + "work 9 1;work 30 1;", "dug 1 30;", -1, 0, 2, 61, 71);
+        // the last of six WORKS
         fits(TWO + Check.times(5, "work 1 1;") + "work 30 1;", "dug 0 0;dug 1 0;dug 2 0;dug 3 0;dug 4 0;", -1, 5, 1, 25, 55);
-        // by all that FIT: 6 by 1 and 6 by 0 of each of two WORKS
+        // 2 are alike of either WORK
         fits(EdgesOfAsked.house(9, 2) + "work 30 1;work 9 1;", "dug 0 0;", -1, 0, 2, 21, 31);
     }
 

@@ -11,6 +11,7 @@ public final class EdgesTest {
         EdgesOfKin.run();
         EdgesOfSights.run();
         EdgesOfNumbers.run();
+        EdgesOfOrder.run();
         Words.finish();
         Check.finish();
     }
