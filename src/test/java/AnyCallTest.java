@@ -57,7 +57,7 @@ public final class AnyCallTest {
         boolean is = draw.nextBoolean();
         int v = draw.nextInt(10) == 0 ? a : draw.nextInt(2);
         int l = draw.nextInt(10) == 0 ? b : draw.nextInt(2);
-        switch (draw.nextInt(33)) {
+        switch (draw.nextInt(34)) {
             case 0: return x.feed(a, b, c, d, e);
             case 1: return x.end(a);
             case 2: return x.text(a, b);
@@ -90,6 +90,7 @@ public final class AnyCallTest {
             case 29: return x.share(v, l, c, is);
             case 30: return x.later(v, l);
             case 31: return x.image(a) ? 1 : 0;
+            case 32: return x.count(a);
             default: return x.again(a) ? 1 : 0;
         }
     }

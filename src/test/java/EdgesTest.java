@@ -1,4 +1,4 @@
-/** Each sentence of the document that names an edge, with a test of its own. */
+/** Each sentence of the document, those that name an edge first, with a test of its own. */
 public final class EdgesTest {
     private EdgesTest() {
     }
@@ -12,6 +12,7 @@ public final class EdgesTest {
         EdgesOfSights.run();
         EdgesOfNumbers.run();
         EdgesOfOrder.run();
+        PlainSentences.run();
         Words.finish();
         Check.finish();
     }
